@@ -124,6 +124,7 @@ public final class FilmTest {
             bent 60 = 0
             turned = -56         # WAY 12 behind TICK 2 too, and nearer to 0
             """);
+        farthestAndNearestPaces();
         Script.play("22 below 0", """
             film 0 100 = 1
             film -26 97 = 2
@@ -131,6 +132,19 @@ public final class FilmTest {
             film -71 71 = 4
             turned = -7          # WAYS 23, 22, 21
             """);
+    }
+
+    /** Films of balls that go straight, seen from platforms of the greatest and of the least PACES. */
+    private static void farthestAndNearestPaces() {
+        for (int pace : new int[] {60, -60, 1, -1}) {
+            RoundThrow x = new RoundThrow();
+            x.set(0, 100 + pace);
+            x.sit(0, 0);
+            for (int tick = 0; tick < 24; tick++) {
+                x.film(x.ball(0, 80, 0, tick, 2), x.ball(0, 80, 0, tick, 3));
+            }
+            Script.due("22 turned by " + pace, x.turned(), pace);
+        }
     }
 
     private static void span() {

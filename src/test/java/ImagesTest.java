@@ -22,11 +22,11 @@ public final class ImagesTest {
             film 3 9 = 2
             film 7 7 = 3
             bent 0 = 11
-            text +5.2
-            push = 2
-            text +7
+            text +5.2-3
+            push = 3
+            text .1+7
             image 0 = 1
-            told 0 = 2
+            told 0 = 4
             told 4 = 115
             set 0 1 = 115
             set 1 2 = 1
@@ -36,12 +36,12 @@ public final class ImagesTest {
             sit 200 0 = 1
             clear = 3
             film 0 0 = 1
-            push = 1
+            push = 2
             text ab
             restore 0 = 1
             told 0 = 2         # the PAD is as it is now
             fault = 0
-            told 1 = 2
+            told 1 = 3
             told 2 = 1
             told 3 = 3
             told 4 = 115
@@ -54,6 +54,9 @@ public final class ImagesTest {
             bent 0 = 11
             turn 1 0 = 20
             turn 1 1 = 119
+            turn 2 0 = 39
+            turn 3 0 = 54      # 18 less 3
+            turn 3 1 = 114
             """);
         Script.play("26 refused", """
             image -1 = OUTSIDE
@@ -77,6 +80,7 @@ public final class ImagesTest {
             restore 1 = 1
             told 2 = 1
             point 0 0 0 = 300
+            point 0 0 1 = 0
             sit 600 0 = 1
             film 5 5 = 1
             restore 1 = 1      # what is done later does not change the IMAGE

@@ -56,6 +56,64 @@ public final class LearningTest {
             learns 0 60 1 0 = NONE
             learns 0 60 1 1 = NONE
             """);
+        Script.play("24 nearest at the first TICK or the last, the first of several", """
+            set 0 120 = 110
+            sit 300 6 = 0
+            sit 200 8 = 1
+            learns 0 134 1 1 = 18
+            new
+            sit 200 6 = 0
+            sit 300 3 = 1
+            learns 0 96 1 0 = 3
+            new
+            set 0 105 = 110
+            sit 100 6 = 0
+            sit 200 19 = 1
+            learns 0 4 1 0 = 5          # it was nearest at TICK 60
+            new
+            set 0 115 = 110
+            set 2 100 = 30
+            sit 0 0 = 0
+            sit 300 0 = 1
+            learns 0 67 1 1 = NONE      # as near at two TICKS: the first counts
+            """);
+        Script.play("24 neither right nor left: one back", """
+            set 0 130 = 110
+            sit 100 0 = 0
+            sit 0 3 = 1                 # in the middle
+            learns 0 79 1 1 = 18
+            new
+            sit 200 12 = 0
+            sit 0 2 = 1
+            learns 0 115 1 0 = 23
+            """);
+        Script.play("24 where he sees him", """
+            set 2 122 = 30
+            sit 0 6 = 0
+            sit 200 1 = 1
+            learns 0 137 1 1 = 1
+            new
+            set 0 90 = 110
+            set 2 183 = 30
+            sit 100 0 = 0
+            sit 400 2 = 1
+            learns 0 72 1 1 = 2
+            new
+            set 0 100 = 110
+            sit 300 6 = 0               # (0, 300)
+            sit 300 0 = 1
+            learns 0 100 1 0 = 1
+            learns 0 100 1 1 = 21
+            learns 1 100 0 1 = 9
+            """);
+        Script.play("24 the last try that counts", """
+            set 0 109 = 110
+            set 2 71 = 30
+            sit 890 16 = 0
+            sit 400 8 = 1
+            learns 0 157 1 0 = 24
+            learns 0 157 1 1 = 6
+            """);
         Script.play("24 refused", """
             sit 100 0 = 0
             sit 100 6 = 1
@@ -103,6 +161,14 @@ public final class LearningTest {
             learns 0 100 1 0 = 1        # pushed to rest
             along 0 100 1 109 = 1
             along 0 100 1 119 = 4       # 20, pushed to 10
+            """);
+        Script.play("25 the least and the greatest SPEED", """
+            set 0 100 = 110
+            sit 0 0 = 0
+            sit 10 0 = 1
+            set 2 200 = 30
+            along 0 1 1 99 = 1
+            along 0 200 1 99 = 1
             """);
         Script.play("25 refused", """
             sit 100 0 = 0

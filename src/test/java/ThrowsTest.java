@@ -40,6 +40,7 @@ public final class ThrowsTest {
             ball 0 10 6 1 2 = 90
             ball 0 10 6 1 3 = 0
             """);
+        sinesToTheLastDigit();
         Script.play("10 refused", """
             sit 9 1 = 0
             ball -1 0 0 0 0 = GONE-1
@@ -54,6 +55,30 @@ public final class ThrowsTest {
             ball 0 0 0 0 -1 = GONE-2
             ball 0 0 0 0 4 = GONE-2
             """);
+    }
+
+    /** Balls far out show each digit of SINE and COSINE. */
+    private static void sinesToTheLastDigit() {
+        RoundThrow x = new RoundThrow();
+        x.sit(0, 0);
+        for (int side = -1; side <= 1; side += 2) {
+            x.set(0, 100 + 10 * side);
+            for (int tick = 48; tick <= 60; tick++) {
+                int far = 200 * tick;
+                int back = Math.floorMod(-side * tick, 24);
+                Script.due("10 x far out " + side * tick, x.ball(0, 200, 0, tick, 2),
+                        far * sine((back + 6) % 24) / 10000);
+                Script.due("10 y far out " + side * tick, x.ball(0, 200, 0, tick, 3), far * sine(back) / 10000);
+            }
+        }
+    }
+
+    private static int sine(int way) {
+        int[] firstQuarter = {0, 2588, 5000, 7071, 8660, 9659, 10000};
+        if (way > 12) {
+            return -sine(way - 12);
+        }
+        return firstQuarter[way > 6 ? 12 - way : way];
     }
 
     private static void caught() {
@@ -161,6 +186,15 @@ public final class ThrowsTest {
             all 0 1 1 = 1
             all 0 1 3 = 2
             """);
+        Script.play("12 from the edge, while it turns", """
+            sit 200 6 = 0
+            sit 300 18 = 1
+            all 0 1 0 = 31
+            all 0 1 1 = 60             # by its neighbours of SPEED 61
+            all 0 1 2 = 0
+            all 0 1 3 = 4
+            all 0 0 0 = 848
+            """);
         Script.play("12 none", """
             sit 200 6 = 0
             sit 300 18 = 1
@@ -204,6 +238,31 @@ public final class ThrowsTest {
             sit 200 0 = 0
             set 0 104 = 110
             loops 0 10 10 = 1          # touched, not crossed
+            new
+            sit 500 0 = 0
+            set 0 102 = 110
+            loops 0 20 9 = 0           # crossed by the line to TICK 21
+            new
+            sit 100 12 = 0
+            set 0 111 = 110
+            loops 0 20 3 = 1           # only the first line is crossed
+            """);
+        Script.play("13 not crossed", """
+            set 0 101 = 110
+            sit 400 6 = 0
+            sit 200 12 = 1
+            sit 200 18 = 2
+            loops 0 28 18 = 0
+            loops 1 18 18 = 0
+            set 0 102 = 101
+            loops 2 10 0 = 0
+            set 0 107 = 102
+            sit 300 0 = 3
+            loops 3 28 13 = 0
+            loops 3 54 9 = 0
+            set 0 120 = 107
+            sit 200 0 = 4
+            loops 4 38 14 = 1
             """);
         Script.play("13 refused", """
             sit 0 0 = 0
