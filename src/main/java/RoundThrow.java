@@ -803,8 +803,9 @@ public final class RoundThrow {
             }
         }
 
+        /** As far as it is looked at for LOOPS. */
         void followSeen(Ball ball, Platform platform) {
-            for (int t = 0; t <= LAST_TICK; t++) {
+            for (int t = 0; t <= LAST_LOOP_TICK; t++) {
                 int back = platform.wayBack(t);
                 xs[t] = Ways.turnX(ball.xBehind(t), ball.yBehind(t), back);
                 ys[t] = Ways.turnY(ball.xBehind(t), ball.yBehind(t), back);
