@@ -4,8 +4,9 @@ import java.util.Random;
 
 /** Long mixed runs of calls, the same on the class and on the model: all promises together. */
 public final class ModelTest {
-    private static final int RUNS = 120;
-    private static final int CALLS = 300;
+    private static final int RUNS = 80;
+    // With the nine at the end as many as an object is used for.
+    private static final int CALLS = 503;
     private static final int[] WILD = {Integer.MIN_VALUE, Integer.MAX_VALUE, -1, 0, 1, -100000000, 65536};
     private static final String[] PARTS = {".1", ".2", ".9", "+5", "-7", "+40", "-99", "+0", "+", ".0", "x"};
 

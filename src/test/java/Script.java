@@ -31,6 +31,19 @@ final class Script {
         return x;
     }
 
+    /** Plays rows without answers on an object of either kind, to bring it into a state. */
+    static void prepare(Object x, String rows) {
+        for (String row : rows.split("\n")) {
+            if (row.startsWith("text ")) {
+                for (char sign : row.substring(5).toCharArray()) {
+                    call(x, "say", String.valueOf((int) sign));
+                }
+            } else if (!row.isEmpty()) {
+                call(x, row.split(" "));
+            }
+        }
+    }
+
     static void due(String what, long got, long want) {
         asked++;
         if (got != want) {
