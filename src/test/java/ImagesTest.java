@@ -6,6 +6,7 @@ public final class ImagesTest {
     public static void main(String[] args) {
         imageKeepsWhatIsSet();
         imageKeepsTheRest();
+        imageOfAFullOne();
         imageLeavesThePad();
         imageRefused();
         restore();
@@ -77,26 +78,42 @@ public final class ImagesTest {
             turn 2 0 = 30
             turn 3 0 = 42
             """);
+    }
+
+    /** Kept to the last ONE, PART and POINT; what is on it meanwhile is as full, but other. */
+    private static void imageOfAFullOne() {
         RoundThrow x = new RoundThrow();
-        for (int n = 0; n < 24; n++) {
-            x.sit(100 + n, 0);
-            x.film(n, n * n);
+        x.image(1);
+        fill(x, 100, 6, '9');
+        x.image(0);
+        x.restore(1);
+        Script.due("26 a full one is kept: not yet", x.told(1) + x.told(2) + x.told(3), 0);
+        fill(x, 500, 12, '2');
+        Script.due("26 a full one is kept: restored", x.restore(0), 1);
+        Script.due("26 a full one is kept: PARTS", x.told(1), 20);
+        Script.due("26 a full one is kept: ONES", x.told(2), 8);
+        Script.due("26 a full one is kept: POINTS", x.told(3), 24);
+        Script.due("26 a full one is kept: PUSHES", x.turn(1, 0), 38);
+        for (int one = 0; one < 8; one++) {
+            Script.due("26 a full one is kept: x of ONE " + one, x.point(one, 0, 0), 0);
+            Script.due("26 a full one is kept: y of ONE " + one, x.point(one, 0, 1), 100 + one);
+        }
+        Script.due("26 a full one is kept: FILM", x.bent(0), 22 * 2 + 100);
+    }
+
+    /** 8 ONES, 20 PARTS and 24 POINTS. */
+    private static void fill(RoundThrow x, int far, int way, int lastDigit) {
+        for (int n = 0; n < 8; n++) {
+            x.sit(far + n, way);
         }
         for (int n = 0; n < 20; n++) {
             x.say('+');
-            x.say(n < 19 ? '1' : '9');
+            x.say(n < 19 ? '1' : lastDigit);
         }
         x.push();
-        x.image(0);
-        x.clear();
-        x.push();
-        Script.due("26 a full one is kept", x.restore(0), 1);
-        Script.due("26 a full one is kept: PARTS", x.told(1), 20);
-        Script.due("26 a full one is kept: PUSHES", x.turn(1, 0), 38);
-        Script.due("26 a full one is kept: ONES", x.told(2), 8);
-        Script.due("26 a full one is kept: the last ONE", x.point(7, 0, 0), 107);
-        Script.due("26 a full one is kept: POINTS", x.told(3), 24);
-        Script.due("26 a full one is kept: FILM", x.bent(0), 44);
+        for (int n = 0; n < 24; n++) {
+            x.film(way * n, n == 23 ? n * n + far : n * n);
+        }
     }
 
     private static void imageLeavesThePad() {
@@ -158,12 +175,27 @@ public final class ImagesTest {
             turn 1 0 = 10
             """);
         Script.play("27 kept anew", """
+            sit 100 0 = 0
+            film 1 1 = 1
+            set 1 3 = 0
+            text +5
+            push = 1
             image 0 = 1
-            set 1 5 = 0
+            sit 200 0 = 1
+            film 2 2 = 2
+            set 1 5 = 3
+            text +6.1
+            push = 2
             image 0 = 1
+            clear = 2
             set 1 7 = 5
+            push = 0
             restore 0 = 1
+            told 1 = 2
+            told 2 = 2
+            told 3 = 2
             told 5 = 5
+            turn 1 0 = 16
             """);
         Script.play("27 an IMAGE holds no images", """
             image 0 = 1

@@ -82,6 +82,13 @@ public final class LearningTest {
             learns 0 100 2 0 = 4
             learns 0 100 2 1 = 9
             """);
+        Script.play("24 on the right: below 0 by as little as 1", """
+            set 0 120 = 110
+            sit 0 0 = 0
+            sit 15 0 = 1                # (12, 7) behind TICK 1
+            learns 0 50 1 0 = 4         # (43, 25) along WAY 2: 12 * 25 - 7 * 43
+            learns 0 50 1 1 = 3
+            """);
         Script.play("24 else one back", """
             set 0 90 = 110
             sit 0 0 = 0

@@ -536,6 +536,13 @@ public final class ThrowsTest {
             sit 100 0 = 0
             loops 0 30 18 = 1
             """);
+        Script.play("13 far out, where products are beyond an int", """
+            set 0 180 = 110
+            sit 1000 6 = 0
+            loops 0 20 0 = 0
+            sit 1000 0 = 1
+            loops 1 0 14 = 0
+            """);
         Script.play("13 SPEED 0 and 200", """
             set 0 140 = 110
             sit 200 0 = 0
