@@ -305,7 +305,8 @@ public final class ImagesTest {
         y.sit(0, 0);
         y.sit(300, 0);
         for (int n = 3; n <= 512; n++) {
-            Script.due("call " + n + " of 512", n % 2 == 0 ? y.image(n / 2 % 2) : y.learns(0, 100, 1, 0), n % 2 == 0 ? 1 : 4);
+            boolean even = n % 2 == 0;
+            Script.due("call " + n + " of 512", even ? y.image(n / 2 % 2) : y.learns(0, 100, 1, 0), even ? 1 : 4);
         }
     }
 }

@@ -232,7 +232,8 @@ public final class PlatformTest {
 
     private static void faultsOfWholeTexts() {
         faultOf("5 no signs: NONE", "", RoundThrow.NONE);
-        for (String whole : new String[] {"+0", "-0", "+9", "-99", "+00", ".1", ".9", ".1.9", "+1.9", ".1.2-3+44", "+1-2+33-44.5"}) {
+        String[] wholeTexts = {"+0", "-0", "+9", "-99", "+00", ".1", ".9", ".1.9", "+1.9", ".1.2-3+44", "+1-2+33-44.5"};
+        for (String whole : wholeTexts) {
             faultOf("5 without fault: NONE", whole, RoundThrow.NONE);
         }
         faultOf("5 40 signs without fault", ".1".repeat(20), RoundThrow.NONE);
@@ -606,8 +607,8 @@ public final class PlatformTest {
         for (int way = 0; way < 24; way++) {
             RoundThrow x = new RoundThrow();
             x.sit(1000, way);
-            int further = (way + 6) % 24;
-            Script.due("9 COSINE of WAY " + way, x.point(0, 0, 0), further > 12 ? -sines[further - 12] : sines[further]);
+            int on = (way + 6) % 24;
+            Script.due("9 COSINE of WAY " + way, x.point(0, 0, 0), on > 12 ? -sines[on - 12] : sines[on]);
             Script.due("9 SINE of WAY " + way, x.point(0, 0, 1), way > 12 ? -sines[way - 12] : sines[way]);
         }
         Script.play("9 quotients are cut towards 0, above it and below", """

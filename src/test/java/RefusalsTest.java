@@ -212,8 +212,8 @@ public final class RefusalsTest {
 
     /** Refusals that no number tells: FULL, NO, STATE, and UNKNOWN of one who is both. */
     private static void refusedByTheState() {
-        String[] oneSignMore = {"+", ".", "+1x", "+123", ".0"};
-        for (String text : oneSignMore) {
+        String[] faulty = {"+", ".", "+1x", "+123", ".0"};
+        for (String text : faulty) {
             changesNothing("Promise 6, a FAULT: ", IN_USE + "wipe\ntext " + text, "push", RoundThrow.NO);
         }
         changesNothing("Promise 3, 40 signs: ", FULL, "say 33", RoundThrow.FULL);
@@ -222,7 +222,8 @@ public final class RefusalsTest {
         changesNothing("Promise 8, 8 ONES: ", FULL, "sit 1000 23", RoundThrow.FULL);
         changesNothing("Promise 19, 24 POINTS: ", FULL, "film -2000 2000", RoundThrow.FULL);
         changesNothing("Promise 19, 24 POINTS: ", FULL, "film 2000 -2000", RoundThrow.FULL);
-        String[] fewPoints = {NEW, IN_USE + "clear\n", IN_USE + "clear\nfilm 1 1\n", IN_USE + "clear\nfilm 1 1\nfilm 2 9\n"};
+        String none = IN_USE + "clear\n";
+        String[] fewPoints = {NEW, none, none + "film 1 1\n", none + "film 1 1\nfilm 2 9\n"};
         for (String state : fewPoints) {
             changesNothing("Promise 22, too few POINTS: ", state, "turned", RoundThrow.GONE + RoundThrow.STATE);
             changesNothing("Promise 23, too few POINTS: ", state, "span 0 0", RoundThrow.GONE + RoundThrow.STATE);
@@ -238,7 +239,8 @@ public final class RefusalsTest {
             String[] rows = {"learns %d 1 %d 0", "learns %d 0 %d 0", "learns %d 1 %d 2", "along %d 200 %d 198",
                 "along %d 201 %d 0", "along %d 1 %d 199"};
             for (String row : rows) {
-                changesNothing("Promises 24, 25, both are one: ", IN_USE, String.format(row, one, one), RoundThrow.UNKNOWN);
+                String call = String.format(row, one, one);
+                changesNothing("Promises 24, 25, both are one: ", IN_USE, call, RoundThrow.UNKNOWN);
             }
         }
     }
@@ -247,7 +249,8 @@ public final class RefusalsTest {
     private static void askedOnly() {
         String[] rows = {"fault", "turn 60 1", "point 1 9 2", "ball 1 200 5 60 3", "caught 0 30 5 1", "all 0 1 3",
             "loops 0 30 5", "rolled 10 20 30 5 60 0", "off 10 20 30 5", "leans 1000", "stays 9", "hut 9 9 9",
-            "bent 60", "turned", "span 9 1", "learns 0 40 1 0", "learns 2 9 0 1", "along 0 40 1 198", "along 2 9 0 0", "told 8"};
+            "bent 60", "turned", "span 9 1", "learns 0 40 1 0", "learns 2 9 0 1", "along 0 40 1 198", "along 2 9 0 0",
+            "told 8"};
         for (String row : rows) {
             Model model = new Model();
             Script.prepare(model, IN_USE);
