@@ -589,7 +589,7 @@ public final class RoundThrow {
         int farthestPace(int slack, int side) {
             int best = likeliestPace();
             int most = bend(best) + slack;
-            for (int size = MOST_PACE_TRIED; size > -MOST_PACE_TRIED; size--) {
+            for (int size = MOST_PACE_TRIED; size > side * best; size--) {
                 if (bend(side * size) <= most) {
                     return side * size;
                 }

@@ -44,7 +44,7 @@ import javax.tools.ToolProvider;
 /**
  * The rules of LANGUAGE.md that can be read off the source, looked at in the compiler's own tree of
  * it. Run at the root. What is left to reading: that indices, divisors and references are looked at
- * before use (7), that each loop ends (9), and how much a run makes (12).
+ * before use (7), and that each loop ends (9). How much a run makes (12) is RoomTest's.
  */
 public final class LanguageTest extends TreePathScanner<Void, Void> {
     private static final Path SOURCE = Path.of("src/main/java/RoundThrow.java");

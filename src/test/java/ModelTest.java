@@ -7,6 +7,7 @@ public final class ModelTest {
     private static final int RUNS = 80;
     // With the nine at the end as many as an object is used for.
     private static final int CALLS = 503;
+    private static final int CALLS_ON = 20000;
     private static final int[] WILD = {Integer.MIN_VALUE, Integer.MAX_VALUE, -1, 0, 1, -100000000, 65536};
     private static final String[] PARTS = {".1", ".2", ".9", "+5", "-7", "+40", "-99", "+0", "+", ".0", "x"};
 
@@ -86,10 +87,22 @@ public final class ModelTest {
         }
     }
 
+    /** Behind the 512th call answers are free, but none may throw (LANGUAGE.md, rule 7). */
+    private void runOn() {
+        RoundThrow x = new RoundThrow();
+        int answered = 0;
+        for (int i = 0; i < CALLS_ON; i++) {
+            Script.call(x, someCall());
+            answered++;
+        }
+        Script.due("calls that end, of one object", answered, CALLS_ON);
+    }
+
     public static void main(String[] args) {
         for (int run = 0; run < RUNS; run++) {
             new ModelTest(run).run(run);
         }
+        new ModelTest(RUNS).runOn();
         Script.end();
     }
 }

@@ -85,7 +85,7 @@ final class Script {
         }
     }
 
-    private static int number(String word) {
+    static int number(String word) {
         if (word.startsWith("GONE-")) {
             return RoundThrow.GONE - Integer.parseInt(word.substring(5));
         }
